@@ -3,7 +3,8 @@ import java.util.Random;
 /** Runs of calls, always the same ones, on PlainLines and on Reference. */
 public final class ReferenceTest {
     private static final int[] SIZES = {2, 4, 8, 16, 32};
-    private static final int CALLS = 512;
+    /** A mixed call is three calls at most on the object, which is used for 512 at most. */
+    private static final int MIXED_CALLS = 170;
 
     private final Random random;
     private final int run;
@@ -16,17 +17,17 @@ public final class ReferenceTest {
     }
 
     public static void main(String[] args) {
-        for (int run = 0; run < 400 && Due.allRight(); run++) {
+        for (int run = 0; run < 1200 && Due.allRight(); run++) {
             new ReferenceTest(run).mixedCalls();
         }
-        for (int run = 400; run < 500 && Due.allRight(); run++) {
+        for (int run = 1200; run < 1400 && Due.allRight(); run++) {
             new ReferenceTest(run).wordsSentAndRead();
         }
-        for (int run = 500; run < 900 && Due.allRight(); run++) {
+        for (int run = 1400; run < 1800 && Due.allRight(); run++) {
             new ReferenceTest(run).allCounts(SIZES[run % 3]);
         }
-        for (int run = 900; run < 917 && Due.allRight(); run++) {
-            new ReferenceTest(run).countsOfSixteen(run - 900);
+        for (int run = 1800; run < 1817 && Due.allRight(); run++) {
+            new ReferenceTest(run).countsOfSixteen(run - 1800);
         }
         Due.end();
     }
@@ -67,7 +68,7 @@ public final class ReferenceTest {
     }
 
     private void mixedCalls() {
-        for (int call = 0; call < CALLS; call++) {
+        for (int call = 0; call < MIXED_CALLS; call++) {
             int kind = random.nextInt(100);
             if (kind < 30) {
                 placeCall();
@@ -82,7 +83,7 @@ public final class ReferenceTest {
     }
 
     private void placeCall() {
-        int n = x.told(0);
+        int n = y.told(0);
         int place = near(0, n - 1);
         int a = near(0, 2);
         long bits = nearBits(n);
@@ -122,7 +123,7 @@ public final class ReferenceTest {
                 due("about " + place + " " + a, x.about(place, a), y.about(place, a));
                 break;
             case 11: case 12: {
-                long message = nearBits(x.told(1));
+                long message = nearBits(y.told(1));
                 due("word " + message, x.word(message), y.word(message));
                 break;
             }
@@ -149,7 +150,7 @@ public final class ReferenceTest {
                 due("read " + k + " " + lane, x.read(k, lane), y.read(k, lane));
                 break;
             case 5: case 6: {
-                int i = near(0, Math.max(0, x.told(5)));
+                int i = near(0, Math.max(0, y.told(5)));
                 due("path " + i, x.path(i), y.path(i));
                 break;
             }
@@ -157,7 +158,7 @@ public final class ReferenceTest {
                 due("passed", x.passed(), y.passed());
                 break;
             case 9:
-                if (x.told(1) <= 8 || x.told(1) > 12) {
+                if (y.told(1) <= 8 || y.told(1) > 12) {
                     int which = near(0, 1);
                     due("nearest", x.nearest(k, lane, which), y.nearest(k, lane, which));
                 }
@@ -168,19 +169,19 @@ public final class ReferenceTest {
     }
 
     private void sendCall(int k) {
-        long message = nearBits(x.told(1));
-        long lose = nearBits(x.told(0));
-        long turn = random.nextInt(3) == 0 ? nearBits(x.told(0)) : 0;
+        long message = nearBits(y.told(1));
+        long lose = nearBits(y.told(0));
+        long turn = random.nextInt(3) == 0 ? nearBits(y.told(0)) : 0;
         due("send " + k + " " + message + " " + lose + " " + turn,
             x.send(k, message, lose, turn), y.send(k, message, lose, turn));
     }
 
     /** With many places the slow counts are asked for seldom. */
     private void countCall() {
-        int n = x.told(0);
+        int n = y.told(0);
         int w = near(0, n);
         boolean cheap = n <= 8 || n == 32 || random.nextInt(50) == 0;
-        if (random.nextInt(3) == 0 && (x.told(1) <= 8 || x.told(1) > 12)) {
+        if (random.nextInt(3) == 0 && (y.told(1) <= 8 || y.told(1) > 12)) {
             due("count " + w, x.count(w), y.count(w));
         } else if (cheap && random.nextBoolean()) {
             due("across " + w, x.across(w), y.across(w));
@@ -193,7 +194,7 @@ public final class ReferenceTest {
         int k = near(0, 3);
         int other = near(0, 3);
         int lane = near(0, 2);
-        int n = x.told(0);
+        int n = y.told(0);
         int i = near(0, n);
         int place = near(0, n - 1);
         switch (random.nextInt(14)) {
@@ -245,17 +246,17 @@ public final class ReferenceTest {
         int n = SIZES[random.nextInt(SIZES.length)];
         due("size", x.size(n), y.size(n));
         due("sheet", x.sheet(0, 2, n), y.sheet(0, 2, n));
-        for (int round = 0; round < 8; round++) {
+        for (int round = 0; round < 4; round++) {
             anyPlaces(n);
             int w = 1 + random.nextInt(64);
             due("wide " + w, x.wide(w), y.wide(w));
-            long message = random.nextLong() & ((1L << x.told(1)) - 1);
+            long message = random.nextLong() & ((1L << y.told(1)) - 1);
             long all = (1L << n) - 1;
             long lose = random.nextLong() & all & (random.nextBoolean() ? random.nextLong() : all);
             long turn = random.nextInt(4) == 0 ? 1L << random.nextInt(n) : 0;
             due("send", x.send(0, message, lose, turn), y.send(0, message, lose, turn));
             due("read", x.read(0, 2), y.read(0, 2));
-            for (int i = 0; i <= x.told(5); i++) {
+            for (int i = 0; i <= y.told(5); i++) {
                 due("path " + i, x.path(i), y.path(i));
             }
             long mask = random.nextLong() & 0xFFFFFFFFL;
@@ -287,7 +288,7 @@ public final class ReferenceTest {
 
     private void countsOfSixteen(int k) {
         due("size", x.size(16), y.size(16));
-        while (x.told(1) < k) {
+        while (y.told(1) < k) {
             int place = random.nextInt(16);
             due("good " + place, x.good(place), y.good(place));
         }

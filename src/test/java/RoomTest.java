@@ -4,7 +4,7 @@ import java.lang.management.ManagementFactory;
 public final class RoomTest {
     private static final long OBJECT_BYTES = 16384;
     private static final int OBJECTS = 50;
-    private static final int CALLS = 400;
+    private static final int ROUNDS = 39;
 
     private static final com.sun.management.ThreadMXBean THREADS =
         (com.sun.management.ThreadMXBean) ManagementFactory.getThreadMXBean();
@@ -21,7 +21,7 @@ public final class RoomTest {
             sum += dearCalls(new PlainLines());
         }
         long made = THREADS.getCurrentThreadAllocatedBytes() - before;
-        System.out.println(made / OBJECTS + " bytes an object with " + CALLS + " calls, sum " + sum);
+        System.out.println(made / OBJECTS + " bytes an object with 508 calls, sum " + sum);
         Due.isTrue("an object with all its calls stays under " + OBJECT_BYTES + " bytes",
             made < OBJECT_BYTES * OBJECTS);
         Due.end();
@@ -30,13 +30,13 @@ public final class RoomTest {
     private static long dearCalls(PlainLines x) {
         long sum = 0;
         x.wide(64);
-        for (int call = 0; call < CALLS / 10; call++) {
-            sum += x.size(call % 2 == 0 ? 32 : 16);
+        for (int round = 0; round < ROUNDS; round++) {
+            sum += x.size(round % 2 == 0 ? 32 : 16);
             sum += x.choose(12);
-            sum += x.sheet(call % 4, call % 3, 40);
-            sum += x.send(call % 4, call, 0xFFFF, 0);
-            sum += x.read(call % 4, call % 3);
-            sum += x.nearest(call % 4, call % 3, 0);
+            sum += x.sheet(round % 4, round % 3, 40);
+            sum += x.send(round % 4, round, 0xFFFF, 0);
+            sum += x.read(round % 4, round % 3);
+            sum += x.nearest(round % 4, round % 3, 0);
             sum += x.count(8);
             sum += x.across(8);
             sum += x.fails(8);
